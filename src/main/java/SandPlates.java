@@ -172,11 +172,15 @@ public final class SandPlates {
     private int calmDown(int[] state) {
         sand.take(state);
         sand.calm(board);
+        layBack(state);
+        return sand.topplings;
+    }
+
+    private void layBack(int[] state) {
         for (int i = 0; i < board.plates; i++) {
             state[i] = sand.grains[i];
         }
         state[DRAIN] += sand.drained;
-        return sand.topplings;
     }
 
     public int drop(int plate, int many) {
@@ -194,10 +198,7 @@ public final class SandPlates {
         }
         sand.take(now);
         sand.tip(board, plate, 1);
-        for (int i = 0; i < board.plates; i++) {
-            now[i] = sand.grains[i];
-        }
-        now[DRAIN] += sand.drained;
+        layBack(now);
         acts.keep(now);
         return now[plate];
     }
@@ -763,14 +764,15 @@ public final class SandPlates {
 
         int widthTo(int plate, int set) {
             int wide = 0;
-            for (int i = 0; i < plates; i++) {
+            for (int i = 0; i < plates && has(plate); i++) {
                 if ((set >> i & 1) != 0) {
-                    wide += width(plate, i);
+                    wide += widths[plate * MOST_PLATES + i];
                 }
             }
             return wide;
         }
 
+        /** The drain burns with every set. */
         int widthToBurnt(int plate, int set) {
             return has(plate) ? toDrain[plate] + widthTo(plate, set) : 0;
         }
@@ -785,7 +787,7 @@ public final class SandPlates {
             for (int step = 1; step <= MOST_PLATES; step++) {
                 int next = reached;
                 for (int i = 0; i < plates; i++) {
-                    if ((reached >> i & 1) == 0 && leadsOn(i, reached)) {
+                    if ((reached >> i & 1) == 0 && widthToBurnt(i, reached) > 0) {
                         steps[i] = step;
                         next |= 1 << i;
                     }
@@ -793,10 +795,6 @@ public final class SandPlates {
                 reached = next;
             }
             return reached == all;
-        }
-
-        private boolean leadsOn(int plate, int reached) {
-            return widthToBurnt(plate, reached) > 0;
         }
 
         int overfull(int[] heap) {
@@ -1391,7 +1389,7 @@ public final class SandPlates {
             }
             grains[plate] -= board.brim[plate] * times;
             for (int i = 0; i < board.plates; i++) {
-                grains[i] += board.width(plate, i) * times;
+                grains[i] += board.widths[plate * MOST_PLATES + i] * times;
             }
             drained += board.toDrain[plate] * times;
             often[plate] += times;
