@@ -11,6 +11,7 @@ public final class TableTest {
         places();
         toldAlready();
         numbers();
+        cut();
         names();
         ways();
         units();
@@ -188,6 +189,21 @@ public final class TableTest {
         bad("draw 1000;", 4, 5);
         DUE.is("luck 100", Due.told("luck 100;").about(13), 100);
         DUE.is("luck 0", Due.told("luck 0;").about(13), 0);
+    }
+
+    /** What lay on the tape behind its end is no part of the text. */
+    private static void cut() {
+        String[] texts = {"plate a;drain ab;", "luck 1000;", "luck 5a;", "luck 5;luck 6;"};
+        int[] ends = {15, 8, 6, 7};
+        int[] answers = {-1, -1, -1, 0};
+        for (int i = 0; i < texts.length; i++) {
+            SandPlates x = new SandPlates();
+            Due.write(x, texts[i]);
+            DUE.is("end", x.end(ends[i]), ends[i]);
+            DUE.is("cut " + texts[i], x.table(), answers[i]);
+            DUE.is("cut fault(0)", x.fault(0), answers[i] < 0 ? 2 : 0);
+            DUE.is("cut fault(1)", x.fault(1), answers[i] < 0 ? ends[i] : -1);
+        }
     }
 
     private static void names() {
