@@ -80,13 +80,14 @@ public final class SandPlates {
         boolean good = reader.read(tape, tapeLength, draft);
         faultKind = reader.fault;
         faultPlace = reader.faultPlace;
+        // Read is read: a fault leaves the table as it was, but not the tape.
+        tapeLength = 0;
         if (!good) {
             return NONE;
         }
         Board old = board;
         board = draft;
         draft = old;
-        tapeLength = 0;
         begin();
         return board.plates;
     }

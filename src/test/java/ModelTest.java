@@ -80,6 +80,7 @@ public final class ModelTest {
         DUE.is(told + " table()", x.table(), y.table());
         DUE.is(told + " fault(0)", x.fault(0), y.fault(0));
         DUE.is(told + " fault(1)", x.fault(1), y.fault(1));
+        DUE.is(told + " tape", x.about(10), y.about(10));
         return text.length() / 20 + 6;
     }
 

@@ -556,10 +556,11 @@ public final class SlowPlates {
             fault = f.kind;
             faultPlace = f.place;
             return -1;
+        } finally {
+            tape.clear();
         }
         fault = 0;
         faultPlace = -1;
-        tape.clear();
         s = new State(t.holds.clone(), 0, 0, Math.max(0, t.draw));
         undos.clear();
         redos.clear();

@@ -7,6 +7,7 @@ public final class TableTest {
         tape();
         good();
         allStays();
+        tapeBehindTable();
         tokens();
         places();
         toldAlready();
@@ -97,7 +98,8 @@ public final class TableTest {
         DUE.is("a fault", x.table(), -1);
         DUE.is("fault(0)", x.fault(0), 5);
         DUE.is("fault(1)", x.fault(1), 14);
-        DUE.is("tape stays", x.about(10), 16);
+        DUE.is("tape is empty behind a fault", x.about(10), 0);
+        DUE.is("time stays behind a fault", x.about(9), 7);
         DUE.is("plates stay", x.about(0), 1);
         DUE.is("grains stay", x.plate(0, 0), 5);
         DUE.is("acts stay", x.about(6), 1);
@@ -124,6 +126,33 @@ public final class TableTest {
         DUE.is("seed", x.about(5), 0);
     }
 
+    /** The tape is empty behind each table(), whether it was good or not. */
+    private static void tapeBehindTable() {
+        SandPlates x = new SandPlates();
+        DUE.is("feed", x.feed(0, 0, 0, 0, 0), 20);
+        DUE.is("no token", x.table(), -1);
+        DUE.is("end(1) behind a fault", x.end(1), -1);
+        DUE.is("end(0) behind a fault", x.end(0), 0);
+        DUE.is("feed behind a fault", x.feed(0x6c75636b, 0x20373b20, 0x20202020, 0x20202020, 0x20202020), 20);
+        DUE.is("what was fed behind a fault is the whole text", x.table(), 0);
+        DUE.is("luck", x.about(13), 7);
+        // Twice the same text would have a second luck, had the first one stayed on the tape.
+        DUE.is("feed behind a good one", x.feed(0x6c75636b, 0x20383b20, 0x20202020, 0x20202020, 0x20202020), 20);
+        DUE.is("what was fed behind a good one is the whole text", x.table(), 0);
+        DUE.is("luck", x.about(13), 8);
+        for (int i = 1; i <= 80; i++) {
+            x.feed(-1, -1, -1, -1, -1);
+        }
+        DUE.is("a full tape", x.feed(0, 0, 0, 0, 0), -1);
+        DUE.is("a fault in a full tape", x.table(), -1);
+        DUE.is("luck stays", x.about(13), 8);
+        DUE.is("feed behind a full tape", x.feed(0, 0, 0, 0, 0), 20);
+        x.table();
+        DUE.is("an empty tape tells the empty table behind a fault", x.table(), 0);
+        DUE.is("fault(0)", x.fault(0), 0);
+        DUE.is("no luck", x.about(13), 0);
+    }
+
     private static void bad(String text, int fault, int place) {
         SandPlates x = new SandPlates();
         Due.write(x, text);
@@ -131,6 +160,7 @@ public final class TableTest {
         DUE.is("fault(0) of " + text, x.fault(0), fault);
         DUE.is("fault(1) of " + text, x.fault(1), place);
         DUE.is("plates of " + text, x.about(0), 0);
+        DUE.is("tape behind " + text, x.about(10), 0);
     }
 
     private static void tokens() {
