@@ -3,9 +3,19 @@ final class Due {
     private int wrong;
     private int asked;
     private final String name;
+    private String part = "";
 
     Due(String name) {
         this.name = name;
+    }
+
+    /** What the answers from now on are asked for. */
+    void about(String sentence) {
+        part = sentence.isEmpty() ? "" : sentence + ": ";
+    }
+
+    int asked() {
+        return asked;
     }
 
     void is(String call, long got, long want) {
@@ -13,7 +23,7 @@ final class Due {
         if (got != want) {
             wrong++;
             if (wrong <= 40) {
-                System.out.println(name + ": " + call + " answered " + got + ", due is " + want);
+                System.out.println(name + ": " + part + call + " answered " + got + ", due is " + want);
             }
         }
     }
