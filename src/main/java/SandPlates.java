@@ -1588,6 +1588,7 @@ public final class SandPlates {
         private static final int LEVELS = 46;
         private static final int SETS = 32;
         private static final int DIGIT = 16;
+        private static final int TOO_DEAR = 2147483647;
 
         private final int[] byLevel = new int[LEVELS];
         private final int[][] growing = new int[MOST_PLATES + 1][LEVELS];
@@ -1685,10 +1686,10 @@ public final class SandPlates {
             int all = (1 << board.plates) - 1;
             cheapest[0] = 0;
             for (int set = 1; set <= all; set++) {
-                cheapest[set] = Integer.MAX_VALUE;
+                cheapest[set] = TOO_DEAR;
                 for (int i = 0; i < board.plates; i++) {
                     int before = set & ~(1 << i);
-                    if (before != set && cheapest[before] < Integer.MAX_VALUE) {
+                    if (before != set && cheapest[before] < TOO_DEAR) {
                         cheapest[set] = Math.min(cheapest[set], priceWith(board, heap, before, i));
                     }
                 }
@@ -1703,7 +1704,7 @@ public final class SandPlates {
         private int priceWith(Board board, int[] heap, int before, int plate) {
             int wide = board.widthToBurnt(plate, before);
             if (wide == 0) {
-                return Integer.MAX_VALUE;
+                return TOO_DEAR;
             }
             int lacks = Math.max(0, board.brim[plate] - wide - heap[plate]);
             return cheapest[before] + lacks * (place(0) * DIGIT + place(plate));

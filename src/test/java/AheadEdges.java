@@ -419,7 +419,8 @@ final class AheadEdges {
 
     private static void noneOrAllBurn() {
         SandPlates x = ring(0, 0);
-        x.row();
+        x.mend();
+        DUE.is("numbers lie there ahead", x.about(12), 2);
         DUE.is("none", x.fire(), 0);
         Edges.lie(x);
         DUE.is("without plates", new SandPlates().fire(), 0);
@@ -461,6 +462,15 @@ final class AheadEdges {
         for (int grains = 0; grains < levels.length; grains++) {
             DUE.is("level(" + grains + ") of a ring", x.level(grains), levels[grains]);
         }
+        Due.write(x, "plate a;drain a wide 2;");
+        x.table();
+        int[] next = {1, 1, 0, 0};
+        for (int grains = 0; grains < next.length; grains++) {
+            DUE.is("level(" + grains + ") of one plate", x.level(grains), next[grains]);
+        }
+        Due.write(x, "");
+        x.table();
+        DUE.is("level(1) without plates", x.level(1), 0);
     }
 
     private static void leastAndGreatestLevel() {
@@ -490,6 +500,9 @@ final class AheadEdges {
         x.mend();
         Edges.lie(x);
         x = ring(1, 1);
+        x.mend();
+        Edges.lie(x, 0, 0);
+        x.fire();
         x.mend();
         Edges.lie(x, 0, 0);
         x = Due.told("plate a;plate b;plate c;plate d;plate e;drain e;chute a b;chute b c;chute c d;chute d e;");

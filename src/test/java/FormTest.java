@@ -114,7 +114,7 @@ public final class FormTest {
         }
         m = Pattern.compile("\\b(System|Arrays|Math|Integer|Long)\\.(\\w+)").matcher(code);
         Set<String> allowed = Set.of("System.arraycopy", "Arrays.fill", "Arrays.copyOf", "Arrays.copyOfRange",
-            "Math.max", "Math.min", "Math.abs", "Integer.bitCount", "Integer.numberOfTrailingZeros", "Integer.MAX_VALUE");
+            "Math.max", "Math.min", "Math.abs", "Integer.bitCount", "Integer.numberOfTrailingZeros");
         while (m.find()) {
             DUE.is(m.group(), allowed.contains(m.group()), true);
         }

@@ -68,6 +68,7 @@ final class LendEdges {
         e.of(38, "CREDIT.", LendEdges::noCredit);
         e.of(39, "RANK (the DRAIN has -30 .. 30):", LendEdges::thirtyOwedOrHad);
         e.of(39, "-1 .. 3;", LendEdges::leastAndMostRank);
+        e.of(39, "RANK", LendEdges::ranksOfThreeRings);
         e.of(39, "-2 for another number.", LendEdges::rankOfAnotherNumber);
     }
 
@@ -152,6 +153,18 @@ final class LendEdges {
         int[] want = {1, 1, 0};
         for (int i = 0; i < 3; i++) {
             DUE.is("of a path", x.nought(i), want[i]);
+        }
+        // All topple together and lose 2 each: 8 on each is one with none, and the first can burn by it.
+        StringBuilder text = new StringBuilder();
+        for (char c = 'a'; c <= 'e'; c++) {
+            text.append("plate ").append(c).append(";drain ").append(c).append(" wide 2;");
+            for (char d = 'a'; d < c; d++) {
+                text.append("chute ").append(c).append(' ').append(d).append(" wide 2;");
+            }
+        }
+        x = Due.told(text.toString());
+        for (int i = 0; i < 5; i++) {
+            DUE.is("of the widest", x.nought(i), 8);
         }
     }
 
@@ -404,8 +417,10 @@ final class LendEdges {
         DUE.is("667", Due.told(TURNS_2001).wheel(0), 667);
         DUE.is("1", Due.told(PATH).wheel(0), 1);
         DUE.is("2", Due.told("plate a;drain a wide 2;").wheel(0), 2);
-        SandPlates x = ring(2, 2);
-        DUE.is("of one grain, whatever there is", x.wheel(1), 3);
+        SandPlates x = ring(1, 1);
+        DUE.is("own", x.own(0), 1);
+        DUE.is("of one grain, whatever there is and was asked", x.wheel(1), 3);
+        DUE.is("of the other", x.wheel(0), 3);
     }
 
     private static void wheelAbove2000() {
@@ -449,6 +464,37 @@ final class LendEdges {
         DUE.is("no less", Due.told(TURNS_2001).rank(-30), -1);
     }
 
+    /**
+     * Five chutes, three of which close rings: by the theorem of Riemann and Roch a rank is that of what lacks to
+     * 1 2 and 1 in the drain, and 2 less than all grains, more. Eight heaps come again: a counts 2 of 8, b counts 3,
+     * the drain 0; grains are even with one another if these are the same.
+     */
+    private static void ranksOfThreeRings() {
+        String text = "plate a holds %d;plate b holds %d;chute a b wide 2;drain a;drain b wide 2;";
+        for (int a = 0; a <= 7; a++) {
+            for (int b = 0; b <= 7; b++) {
+                SandPlates x = Due.told(String.format(text, a, b));
+                for (int all = -2; all <= 9; all++) {
+                    String call = "rank(" + (all - a - b) + ") of " + a + " " + b;
+                    DUE.is(call, x.rank(all - a - b), rankOfThreeRings(all, (2 * a + 3 * b) % 8));
+                }
+            }
+        }
+    }
+
+    private static int rankOfThreeRings(int all, int counts) {
+        boolean single = counts == 0 || counts == 2 || counts == 3;
+        boolean lacksSingle = counts == 0 || counts == 6 || counts == 5;
+        switch (all) {
+            case 0: return counts == 0 ? 0 : -1;
+            case 1: return single ? 0 : -1;
+            case 2: return counts == 1 || counts == 7 ? -1 : 0;
+            case 3: return lacksSingle ? 1 : 0;
+            case 4: return counts == 0 ? 2 : 1;
+            default: return all < 0 ? -1 : Math.min(3, all - 3);
+        }
+    }
+
     private static void rankOfAnotherNumber() {
         for (int drain : new int[] {-31, 31, -32, 32, 99, Edges.MIN, Edges.MAX}) {
             DUE.is("rank(" + drain + ")", ring(9, 9).rank(drain), -2);
@@ -490,6 +536,8 @@ final class LendEdges {
 
     private static void partsAboveOne() {
         DUE.is("none of a path", Due.told(PATH).parts(0), -1);
+        DUE.is("one plate", Due.told("plate a;drain a wide 2;").parts(0), 2);
+        DUE.is("one plate of brim 1", Due.told("plate a;drain a;").parts(0), -1);
         SandPlates x = Due.told("plate a;plate b;drain a;drain b wide 2;");
         DUE.is("1 is left out", x.parts(0), 2);
         DUE.is("no more", x.parts(1), -1);
@@ -555,6 +603,13 @@ final class LendEdges {
         x = Due.told("plate a;plate b;plate c;chute a b;chute b c wide 2;drain a;drain c;");
         DUE.is("unlike chutes to a third", x.like(0), 0);
         DUE.is("unlike chutes to a third", x.like(2), 0);
+        // Whichever is the third: the first, the last.
+        x = Due.told("plate a;plate b;plate c;chute a b;chute a c wide 2;drain b;drain c;");
+        DUE.is("unlike chutes to the first", x.like(1), 0);
+        DUE.is("unlike chutes to the first", x.like(2), 0);
+        x = Due.told("plate a;plate b;plate c;chute c a;chute c b wide 2;drain a;drain b;");
+        DUE.is("unlike chutes to the last", x.like(0), 0);
+        DUE.is("unlike chutes to the last", x.like(1), 0);
     }
 
     // ---- odds

@@ -11,6 +11,9 @@ public final class ModelTest {
     private static final Due DUE = new Due("ModelTest");
     private static final List<Method> FACE = new ArrayList<>();
     private static final String[] NAMES = {"a", "b", "c", "dd", "eeeeeeee"};
+    /** Numbers at both sides of the document's limits. */
+    private static final int[] EDGES = {Integer.MIN_VALUE, -31, -30, -2, -1, 0, 1, 2, 3, 4, 5, 6, 14, 15, 19, 20, 21, 29, 30,
+        31, 59, 60, 61, 99, 100, 999, 1000, 1001, 1600, 1601, 100000, Integer.MAX_VALUE};
 
     public static void main(String[] args) throws ReflectiveOperationException {
         for (Method m : SandPlates.class.getDeclaredMethods()) {
@@ -43,6 +46,9 @@ public final class ModelTest {
             }
             told.append(" | ").append(text);
             left -= feed(x, y, text, told.toString());
+            if (seed % 20 == 7) {
+                left -= fill(x, y, chance, told.toString());
+            }
             int calls = 60 + chance.nextInt(200);
             for (int i = 0; i < calls && left > 0; i++) {
                 Method m = pick(chance, large);
@@ -50,6 +56,19 @@ public final class ModelTest {
                 left--;
             }
         }
+    }
+
+    /** Grains up to the most that can be dropped on some plate, or nearly so. */
+    private static int fill(SandPlates x, SlowPlates y, Random chance, String told) throws ReflectiveOperationException {
+        Method drop = SandPlates.class.getMethod("drop", int.class, int.class);
+        int plate = chance.nextInt(5);
+        int most = 940 + chance.nextInt(60);
+        int calls = 0;
+        while (calls < 60 && x.plate(plate, 0) >= 0 && x.plate(plate, 0) < most) {
+            both(x, y, drop, new Object[] {plate, 20}, told);
+            calls++;
+        }
+        return calls;
     }
 
     private static Method pick(Random chance, boolean large) {
@@ -94,6 +113,9 @@ public final class ModelTest {
     }
 
     private static int number(String name, int i, Random chance) {
+        if (chance.nextInt(20) == 0) {
+            return EDGES[chance.nextInt(EDGES.length)];
+        }
         if (chance.nextInt(40) == 0) {
             return chance.nextBoolean() ? chance.nextInt() : chance.nextInt(200) - 100;
         }

@@ -212,6 +212,11 @@ final class SeenEdges {
         DUE.is("even ones", x.fits(0), 16);
         DUE.is("from 0", x.sure(0, 0), 0);
         DUE.is("to 30", x.sure(1, 0), 30);
+        // Of the table that is told now: on this one's last plate nothing stays.
+        Due.write(x, "plate a;drain a;");
+        x.table();
+        x.seen(0, 1, true);
+        DUE.is("none of another table", x.fits(0), 0);
     }
 
     private static void fewestLeft() {
@@ -424,6 +429,12 @@ final class SeenEdges {
         x.seen(0, 1, false);
         DUE.is("all fit", x.fits(0), 31);
         DUE.is("e tells", x.ask(0, 0), 4);
+        // From 8 on all even ones end at 8, all odd ones at 9: 8, 10 .. 30 are the most alike.
+        DUE.is("12 are left", x.ask(1, 0), 12);
+        x.seen(4, 9, true);
+        DUE.is("9, 11 .. 29", x.fits(0), 11);
+        DUE.is("11 are left", x.ask(1, 0), 11);
+        DUE.is("by each of them", x.ask(0, 0), 0);
     }
 
     private static void noneToAsk() {

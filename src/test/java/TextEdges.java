@@ -152,6 +152,22 @@ final class TextEdges {
         return x;
     }
 
+    /** The same text behind others: a good one, two of them, one with a fault that it comes to at its end, and both. */
+    private static SandPlates[] behind(String earlier, String text) {
+        String[][] runs = {{earlier, text}, {earlier, earlier, text}, {earlier + "?", text}, {earlier, earlier + "?", text},
+            {earlier, text, earlier, text}};
+        SandPlates[] all = new SandPlates[runs.length];
+        for (int i = 0; i < runs.length; i++) {
+            all[i] = new SandPlates();
+            for (String one : runs[i]) {
+                Due.write(all[i], one);
+                all[i].table();
+            }
+            DUE.is("fault of " + text + " behind others", all[i].fault(0), 0);
+        }
+        return all;
+    }
+
     private static String padded(String text, int length) {
         return text + " ".repeat(length - text.length());
     }
@@ -445,10 +461,9 @@ final class TextEdges {
     private static void holdsNotTold() {
         SandPlates x = good("plate c holds 9;plate a;plate b holds 7;drain b;drain a;drain c;", 3);
         Edges.heap("as told", x, 9, 0, 7);
-        // What an earlier table held is no more there.
-        Due.write(x, "plate a;plate b;drain a;drain b;");
-        DUE.is("another table", x.table(), 2);
-        Edges.heap("as told", x, 0, 0);
+        for (SandPlates y : behind("plate c holds 9;plate a holds 8;drain c;drain a;", "plate a;plate b;drain a;drain b;")) {
+            Edges.heap("what earlier tables held is no more there", y, 0, 0);
+        }
     }
 
     private static void chuteToldAhead() {
@@ -474,10 +489,12 @@ final class TextEdges {
             }
         }
         DUE.is("all ten, and one to the drain", good(all.toString(), 5).about(1), 11);
-        // That an earlier table told it does no harm.
-        SandPlates x = good("plate a;plate b;drain a;chute a b;", 2);
-        Due.write(x, "plate a;plate b;drain a;chute a b;");
-        DUE.is("the same table again", x.table(), 2);
+        for (SandPlates x : behind(all.toString(), "plate a;plate b;plate c;drain a;drain b;drain c;chute b a;")) {
+            DUE.is("told by earlier tables alone", x.wide(0, 2), 0);
+            DUE.is("told again", x.wide(0, 1), 1);
+            DUE.is("brim", x.plate(2, 1), 1);
+            DUE.is("chutes", x.about(1), 4);
+        }
     }
 
     private static void chuteWidth() {
@@ -509,9 +526,11 @@ final class TextEdges {
         DUE.is("wide 2", good("plate a;drain a wide 2;", 1).plate(0, 2), 2);
         bad("plate a;drain a wide 0;", 4, 21);
         bad("plate a;drain a wide 3;", 4, 21);
-        SandPlates x = good("plate a;drain a;", 1);
-        Due.write(x, "plate a;drain a wide 2;");
-        DUE.is("the same again", x.table(), 1);
+        for (SandPlates x : behind("plate a;drain a;plate b;drain b wide 2;", "plate a;drain a wide 2;plate b;chute a b;")) {
+            DUE.is("told again", x.plate(0, 2), 2);
+            DUE.is("told by earlier tables alone", x.plate(1, 2), 0);
+            DUE.is("far", x.far(1), 2);
+        }
     }
 
     private static void luckNumbers() {
@@ -520,10 +539,9 @@ final class TextEdges {
         DUE.is("luck 100", good("luck 100;", 0).about(13), 100);
         bad("luck 101;", 4, 5);
         bad("luck 9999;", 4, 5);
-        SandPlates x = good("luck 100;", 0);
-        Due.write(x, "draw 1;");
-        x.table();
-        DUE.is("told by an earlier table alone", x.about(13), 0);
+        for (SandPlates x : behind("luck 100;", "draw 1;")) {
+            DUE.is("told by earlier tables alone", x.about(13), 0);
+        }
     }
 
     private static void drawNumbers() {
@@ -532,10 +550,9 @@ final class TextEdges {
         DUE.is("draw 999", good("draw 999;", 0).about(5), 999);
         bad("draw 1000;", 4, 5);
         bad("draw 9999;", 4, 5);
-        SandPlates x = good("draw 999;", 0);
-        Due.write(x, "luck 1;");
-        x.table();
-        DUE.is("told by an earlier table alone", x.about(5), 0);
+        for (SandPlates x : behind("draw 999;", "luck 1;")) {
+            DUE.is("told by earlier tables alone", x.about(5), 0);
+        }
     }
 
     private static void onceEach() {
@@ -544,9 +561,10 @@ final class TextEdges {
         bad("falls 1;falls 1;", 2, 8);
         bad("luck 0;luck 0;", 2, 7);
         bad("draw 0;draw 0;", 2, 7);
-        SandPlates x = good("falls 1;luck 1;draw 1;", 0);
-        Due.write(x, "falls 1;luck 1;draw 1;");
-        DUE.is("once in each table", x.table(), 0);
+        for (SandPlates x : behind("falls 1;luck 1;draw 1;", "plate a;drain a;falls 2;luck 2;draw 2;")) {
+            DUE.is("once in each table", x.about(0), 1);
+            DUE.is("what falls", x.day(), 2);
+        }
     }
 
     private static String sum(int units) {
@@ -564,13 +582,18 @@ final class TextEdges {
         DUE.is("30 by *", good("falls 1" + "*1".repeat(29) + ";", 0).about(11), 30);
         DUE.is("30 with those in ( e )", good("falls " + "(1)+".repeat(14) + "(1);", 0).about(11), 30);
         bad("falls " + "(1)+".repeat(15) + "1;", 2, 66);
-        // Each table has its own.
-        SandPlates x = good(sum(30) + ";", 0);
-        Due.write(x, sum(30) + ";");
-        DUE.is("30 again", x.table(), 0);
-        Due.write(x, "");
-        x.table();
-        DUE.is("none", x.about(11), 0);
+        for (SandPlates x : behind(sum(30) + ";", sum(30) + ";")) {
+            DUE.is("each table has its own", x.about(11), 30);
+        }
+        for (SandPlates x : behind(sum(30) + ";", "plate a;drain a;")) {
+            DUE.is("none", x.about(11), 0);
+            DUE.is("nothing falls", x.day(), 0);
+        }
+        // As many are open at once as can be: 26 of them, 4 ( e ).
+        String deep = "0 or 1 and 1 < 1 + 1 * ";
+        SandPlates x = good("plate a;drain a;falls " + (deep + "(").repeat(4) + deep + "1" + ")".repeat(4) + ";", 1);
+        DUE.is("30 units", x.about(11), 30);
+        DUE.is("1 comes of them", x.day(), 1);
     }
 
     private static void sevenBrackets() {
@@ -596,7 +619,9 @@ final class TextEdges {
         good("falls not not not not not not not 1 and not not not not not not not 1;", 0);
         good("falls not not not not not not not 1 < 2;", 0);
         // As many as there can be at all: seven ahead of each of 30 units.
-        good("falls " + ("not ".repeat(7) + "1 or ").repeat(29) + "not ".repeat(7) + "1;", 0);
+        String most = "plate a;drain a;falls " + ("not ".repeat(7) + "1 or ").repeat(29) + "not ".repeat(7);
+        DUE.is("0 comes of them", good(most + "1;", 1).day(), 0);
+        DUE.is("1 comes of them", good(most + "0;", 1).day(), 1);
     }
 
     // ---- faults
@@ -705,9 +730,9 @@ final class TextEdges {
         bad("plate a;plate b;plate  b;", 3, 23);
         bad("plate abcdefgh;plate abcdefgh;", 3, 21);
         good("plate a;plate aa;drain a;drain aa;", 2);
-        SandPlates x = good("plate a;drain a;", 1);
-        Due.write(x, "plate a;drain a;");
-        DUE.is("told by an earlier table alone", x.table(), 1);
+        for (SandPlates x : behind("plate a;drain a;", "plate a;drain a;")) {
+            DUE.is("told by earlier tables alone", x.about(0), 1);
+        }
     }
 
     private static void chuteToItself() {
@@ -744,10 +769,12 @@ final class TextEdges {
         bad("plate a;chute a b;", 5, 16);
         bad("plate a;drain aa;", 5, 14);
         // A name of the table before, or of one with a fault, is no name of this one.
-        SandPlates x = good("plate a;drain a;", 1);
-        Due.write(x, "drain a;");
-        DUE.is("a name of the table before", x.table(), -1);
-        DUE.is("fault(0)", x.fault(0), 5);
+        for (SandPlates x : behind("plate b;plate a;drain b;drain a;", "plate b;drain b;")) {
+            Due.write(x, "plate b;drain a;");
+            DUE.is("a name of earlier tables", x.table(), -1);
+            DUE.is("fault(0)", x.fault(0), 5);
+            DUE.is("fault(1)", x.fault(1), 14);
+        }
     }
 
     private static void noWayComesLast() {
@@ -769,6 +796,11 @@ final class TextEdges {
         good("plate a;plate b;drain b;chute a b;", 2);
         good(FIVE + "drain e;chute a b;chute b c;chute c d;chute d e;", 5);
         good("", 0);
+        for (SandPlates x : behind("plate a;plate b;drain a;drain b;chute a b;", "plate a;drain a;")) {
+            Due.write(x, "plate a;plate b;drain a;");
+            DUE.is("by chutes of earlier tables", x.table(), -1);
+            DUE.is("fault(0)", x.fault(0), 6);
+        }
     }
 
     // ---- the tape
