@@ -48,6 +48,7 @@ final class LendEdges {
         e.of(31, "Grains of NOUGHT on a PLATE;", LendEdges::noughtWhateverThereIs);
         e.of(32, "NONE if there is none such.", () -> Edges.onlyPlates("own", SandPlates::own));
         e.of(32, "Grains of the OWN on a PLATE;", LendEdges::ownOfFullPlates);
+        e.of(32, "Grains of the OWN", LendEdges::ownBehindOtherTables);
         e.of(33, "NONE if there is none such.", () -> Edges.onlyPlates("bare", SandPlates::bare));
         e.of(33, "Grains of the BARE on a PLATE;", LendEdges::bareOfFullPlates);
         e.of(34, "its LEVEL; NONE if nothing is.", LendEdges::sumOfEmptyBox);
@@ -312,6 +313,30 @@ final class LendEdges {
         twoHeaps("own of what comes again", x.own(0), x.own(1), 1, 1);
         x = ring(1, 0);
         twoHeaps("own of what comes again", x.own(0), x.own(1), 1, 0);
+    }
+
+    /** In an object that has had other tables all is as in a new one. */
+    private static void ownBehindOtherTables() {
+        String[] texts = {String.format(RING, 1, 0), TURNS_2001, "plate a holds 3;drain a wide 2;", PATH, TURNS_2000,
+            "plate a holds 4;plate b holds 1;chute a b wide 2;drain b;", String.format(RING, 2, 0), ""};
+        SandPlates x = new SandPlates();
+        for (String text : texts) {
+            Due.write(x, text);
+            int plates = x.table();
+            SandPlates fresh = Due.told(text);
+            for (int i = 0; i < plates; i++) {
+                DUE.is("own(" + i + ") of " + text, x.own(i), fresh.own(i));
+                DUE.is("bare(" + i + ") of " + text, x.bare(i), fresh.bare(i));
+                DUE.is("nought(" + i + ") of " + text, x.nought(i), fresh.nought(i));
+                DUE.is("wheel(" + i + ") of " + text, x.wheel(i), fresh.wheel(i));
+            }
+            DUE.is("cycle of " + text, x.cycle(), fresh.cycle());
+            DUE.is("credit of " + text, x.credit(), fresh.credit());
+            DUE.is("many of " + text, x.many(), fresh.many());
+        }
+        Due.write(x, String.format(RING, 2, 0));
+        x.table();
+        twoHeaps("own of 2 0", x.own(0), x.own(1), 0, 1);
     }
 
     private static void bareOfFullPlates() {
