@@ -485,10 +485,15 @@ public final class SandPlates {
         }
         int most = 0;
         for (int i = from; i < board.plates; i++) {
-            spare[i]--;
-            most = Math.max(most, mostNeeded(taken - 1, i));
-            spare[i]++;
+            most = Math.max(most, mostNeededWithout(i, taken));
         }
+        return most;
+    }
+
+    private int mostNeededWithout(int plate, int taken) {
+        spare[plate]--;
+        int most = mostNeeded(taken - 1, plate);
+        spare[plate]++;
         return most;
     }
 
@@ -1254,13 +1259,7 @@ public final class SandPlates {
 
         private void readOne(int within) {
             if (tokens.kind == Tokens.NOT) {
-                if (within > MOST_WITHIN) {
-                    tellFault(OUT_OF_PLACE, tokens.place);
-                    return;
-                }
-                tokens.next();
-                readOne(within + 1);
-                board.falls.add(Formula.NOT);
+                readNot(within);
                 return;
             }
             readSum(within);
@@ -1270,6 +1269,16 @@ public final class SandPlates {
                 readSum(within);
                 board.falls.add(sign);
             }
+        }
+
+        private void readNot(int within) {
+            if (within > MOST_WITHIN) {
+                tellFault(OUT_OF_PLACE, tokens.place);
+                return;
+            }
+            tokens.next();
+            readOne(within + 1);
+            board.falls.add(Formula.NOT);
         }
 
         private static int relation(int kind) {
@@ -1587,7 +1596,10 @@ public final class SandPlates {
         // Five plates with nine grains each at most.
         private static final int LEVELS = 46;
         private static final int SETS = 32;
-        private static final int DIGIT = 16;
+        // A plate lacks nine grains at most: four bits hold them.
+        private static final int DIGIT = 4;
+        private static final int LAST_DIGIT = 15;
+        private static final int TOGETHER = DIGIT * MOST_PLATES;
         private static final int TOO_DEAR = 2147483647;
 
         private final int[] byLevel = new int[LEVELS];
@@ -1644,9 +1656,13 @@ public final class SandPlates {
                 return;
             }
             for (int set = left; set > 0; set = (set - 1) & left) {
-                if (growBy(board, burnt, latest, set, depth)) {
-                    countFrom(board, burnt | set, set, depth + 1);
-                }
+                countWith(board, burnt, latest, set, depth);
+            }
+        }
+
+        private void countWith(Board board, int burnt, int latest, int set, int depth) {
+            if (growBy(board, burnt, latest, set, depth)) {
+                countFrom(board, burnt | set, set, depth + 1);
             }
         }
 
@@ -1695,9 +1711,9 @@ public final class SandPlates {
                 }
             }
             for (int i = 0; i < board.plates; i++) {
-                added.put(cheapest[all] / place(i) % DIGIT);
+                added.put(cheapest[all] >> digitOf(i) & LAST_DIGIT);
             }
-            return cheapest[all] / (place(0) * DIGIT);
+            return cheapest[all] >> TOGETHER;
         }
 
         // A plate that nothing burnt is joined to would have to be so full that it topples.
@@ -1707,11 +1723,11 @@ public final class SandPlates {
                 return TOO_DEAR;
             }
             int lacks = Math.max(0, board.brim[plate] - wide - heap[plate]);
-            return cheapest[before] + lacks * (place(0) * DIGIT + place(plate));
+            return cheapest[before] + lacks * ((1 << TOGETHER) + (1 << digitOf(plate)));
         }
 
-        private static int place(int plate) {
-            return 1 << 4 * (MOST_PLATES - 1 - plate);
+        private static int digitOf(int plate) {
+            return DIGIT * (MOST_PLATES - 1 - plate);
         }
     }
 

@@ -23,6 +23,7 @@ public final class FormTest {
         classes(face);
         words(source);
         lengths(source);
+        recursion(bare(source));
         DUE.end();
     }
 
@@ -137,5 +138,17 @@ public final class FormTest {
                 start = -1;
             }
         }
+    }
+
+    /** A method that calls itself is private and static; others go down by methods that call one another. */
+    private static void recursion(String code) {
+        Matcher m = Pattern.compile("(?ms)^( {4}| {8})(\\w[\\w\\[\\] ]*) (\\w+)\\([^;{]*\\) \\{$(.*?)^\\1\\}$").matcher(code);
+        int methods = 0;
+        while (m.find()) {
+            methods++;
+            boolean callsItself = Pattern.compile("(?<![.\\w])" + m.group(3) + "\\(").matcher(m.group(4)).find();
+            DUE.is(m.group(3) + " calls itself", callsItself && !m.group(2).startsWith("private static "), false);
+        }
+        DUE.is("more methods than the face: " + methods, methods > 100, true);
     }
 }
