@@ -1599,7 +1599,7 @@ public final class SandPlates {
         // A plate lacks nine grains at most: four bits hold them.
         private static final int DIGIT = 4;
         private static final int LAST_DIGIT = 15;
-        private static final int TOGETHER = DIGIT * MOST_PLATES;
+        private static final int TOGETHER = 20;
         private static final int TOO_DEAR = 2147483647;
 
         private final int[] byLevel = new int[LEVELS];
